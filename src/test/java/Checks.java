@@ -6,27 +6,36 @@ final class Checks {
         Object run();
     }
 
-    interface Action {
-        void run();
-    }
-
+    private final String test;
+    private int made = 0;
     private int wrong = 0;
 
+    Checks(String test) {
+        this.test = test;
+    }
+
+    /** The answer that is due, or the class of the exception. */
     void same(String what, Object due, Call call) {
+        made++;
         Object got = answerOf(call);
         if (!Objects.equals(due, got)) {
-            wrong++;
-            System.out.println(what + " answered " + got + ", due is " + due);
+            wrong(what + " answered " + got + ", due is " + due);
         }
     }
 
-    void throwing(String what, Class<? extends RuntimeException> due, Call call) {
-        same(what, due, call);
+    void wrong(String what) {
+        wrong++;
+        System.out.println(test + ": " + what);
+    }
+
+    /** A test that looked at nothing has not passed. */
+    boolean passed() {
+        return made != 0 && wrong == 0;
     }
 
     void end() {
-        System.out.println(wrong == 0 ? "all is as due" : wrong + " answers are not as due");
-        if (wrong != 0) {
+        System.out.println(test + (passed() ? ": all is as due" : ": not all is as due"));
+        if (!passed()) {
             System.exit(1);
         }
     }
@@ -38,19 +47,5 @@ final class Checks {
         } catch (RuntimeException e) {
             return e.getClass();
         }
-    }
-
-    /** The whole disk as a text: two disks are alike if their texts are. */
-    static String diskOf(ClusterVolume v) {
-        StringBuilder text = new StringBuilder();
-        for (int cluster = 0; cluster < 32; cluster++) {
-            text.append(clusterOf(v, cluster)).append(" then ").append(v.table(cluster)).append('\n');
-        }
-        return text.toString();
-    }
-
-    static String clusterOf(ClusterVolume v, int cluster) {
-        return v.cell(cluster, 0) + " " + v.cell(cluster, 1) + " " + v.cell(cluster, 2) + " "
-                + v.cell(cluster, 3);
     }
 }

@@ -32,7 +32,7 @@ public final class FaceTest {
     };
 
     public static void main(String[] args) {
-        Checks checks = new Checks();
+        Checks checks = new Checks("the face");
         Class<?> type = ClusterVolume.class;
         checks.same("the class is public and final", "public final",
                 () -> Modifier.toString(type.getModifiers()));

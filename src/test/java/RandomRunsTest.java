@@ -3,15 +3,17 @@ import java.util.TreeMap;
 
 /** Runs of mixed calls, the same ones each time, on ClusterVolume and on ModelVolume. */
 public final class RandomRunsTest {
-    private static final int RUNS = 2000;
+    private static final int RUNS = 4000;
+    /** An object is good for so many calls; to look at its whole disk takes 161 of them. */
     private static final int CALLS = 512;
+    private static final int CALLS_TO_LOOK = 161;
     private static final int KINDS_OF_CALL = 15;
     /** For each method an answer (for mount() 0 and more than 0) and each exception of the face. */
     private static final int OUTCOMES_DUE = 57;
     /** Each of them has to come often, or the runs would say little of it. */
     private static final int LEAST_OFTEN = 300;
 
-    private static final Checks checks = new Checks();
+    private static final Checks checks = new Checks("random runs");
     private static final TreeMap<String, Integer> outcomes = new TreeMap<>();
 
     private final ClusterVolume volume = new ClusterVolume();
@@ -39,15 +41,16 @@ public final class RandomRunsTest {
         checks.end();
     }
 
+    /** Half of the runs are of any length, so that the disk is seen after all kinds of calls. */
     private void run(int seed) {
-        for (int call = 0; call < CALLS; call++) {
-            String what = step();
-            if (!sameDisk()) {
-                checks.same("run " + seed + ", call " + call + ": the disk after " + what, true,
-                        this::sameDisk);
-                return;
-            }
+        int most = CALLS - CALLS_TO_LOOK;
+        int calls = growing ? most : 1 + random.nextInt(most);
+        String last = "";
+        for (int call = 0; call < calls; call++) {
+            last = step();
         }
+        checks.same("run " + seed + ": the disk after " + calls + " calls, the last " + last, true,
+                this::sameDisk);
     }
 
     private String step() {
@@ -92,9 +95,10 @@ public final class RandomRunsTest {
     }
 
     private String stepOfPower(int i) {
-        if (volume.isDown() && random.nextInt(3) != 0) {
+        if (model.isDown() && random.nextInt(3) != 0) {
             return compare("mount()", volume::mount, model::mount);
         }
+        int cluster = random.nextInt(36) - 2;
         switch (random.nextInt(5)) {
             case 0:
                 int writes = failing ? i : -1;
@@ -110,11 +114,11 @@ public final class RandomRunsTest {
             case 2:
                 return compare("mount()", volume::mount, model::mount);
             case 3:
-                int cluster = random.nextInt(36) - 2;
                 return compare("cell(" + cluster + ", " + i + ")",
                         () -> volume.cell(cluster, i), () -> model.cell(cluster, i));
             default:
-                return compare("table(" + i + ")", () -> volume.table(i), () -> model.table(i));
+                return compare("table(" + cluster + ")",
+                        () -> volume.table(cluster), () -> model.table(cluster));
         }
     }
 
