@@ -231,13 +231,17 @@ public final class PowerTest {
         ClusterVolume v = Volumes.full();
         v.arm(0);
         c.same("make", ArithmeticException.class, () -> v.make(5, false));
-        c.same("append", ArithmeticException.class, () -> v.append(0x23, 1));
+        c.same("make of a first entry", ArithmeticException.class, () -> v.make(0x241, false));
+        c.same("append", ArithmeticException.class, () -> v.append(1, 1));
+        c.same("append of a first number", ArithmeticException.class, () -> v.append(0x23, 1));
         c.same("make of a path there", UnsupportedOperationException.class, () -> v.make(1, true));
         c.same("remove", NoSuchElementException.class, () -> v.remove(5));
         c.same("rename", IllegalArgumentException.class, () -> v.rename(1, 0));
         c.same("put", IndexOutOfBoundsException.class, () -> v.put(1, -1, 1));
         c.same("shorten", IndexOutOfBoundsException.class, () -> v.shorten(1, -1));
         c.same("isDown", false, v::isDown);
+        c.same("a write", IllegalStateException.class, () -> v.put(1, 0, 1));
+        c.same("isDown then", true, v::isDown);
     }
 
     @Sentence("MOUNT: the volume is up, and not armed.")
